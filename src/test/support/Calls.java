@@ -59,7 +59,8 @@ class Calls {
         return store.seen(r);
     }
 
-    /** For breakages: whether a key that is not the writer's would be new in a full state. */
+    // What follows is for breakages; it asks the store itself, so that no breakage alters it.
+
     final boolean isFullFor(int key) {
         return store.size(WRITER) == 24 && !store.has(WRITER, key);
     }

@@ -1,9 +1,9 @@
 import java.util.List;
 
 /**
- * Runs tests of single sentences of the document. Beside each stand breakages, each a store that
- * breaks that sentence alone: the test has to pass with the store, and to fail with each of them,
- * so that no test is there which could not fail.
+ * Runs tests of single sentences of the document. Beside each stand breakages, each a store made to
+ * break that sentence: the test has to pass with CowTreeStore as it is, and to fail with each of
+ * them, so that no test is there which could not fail.
  */
 final class Edges {
     private static final int MILLISECONDS = 60_000;
